@@ -73,6 +73,8 @@ public final class AnswersTest {
         x.want(0, -4);
         x.row(0, 2, 7);
         CHECK.due("8: the one below is above 0", "-14/3", () -> Ask.value(x));
+        x.want(0, -9);
+        CHECK.due("8: below 0 without a common divisor", "-21/2", () -> Ask.value(x));
         for (int what : new int[] {-1, 2, 3, Integer.MIN_VALUE, Integer.MAX_VALUE}) {
             CHECK.badArgument("8: what " + what, () -> x.value(what));
             CHECK.badState("8: the state is named first", () -> infeasible().value(what));

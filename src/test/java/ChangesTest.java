@@ -43,11 +43,17 @@ public final class ChangesTest {
 
     private static void beginClearsAll() {
         RationalProgram x = busy();
+        CHECK.due("2: the old program, asked before it goes", "0/1:27/1 1/1:54/1", () -> Ask.corners(x));
         CHECK.done("2: begin(4, 3)", () -> x.begin(4, 3));
         RationalProgram fresh = new RationalProgram();
         fresh.begin(4, 3);
         CHECK.due("2: a new program", Ask.everything(fresh, 4, 3), () -> Ask.everything(x, 4, 3));
         // Each number is looked at by itself, as the zeros of the others would hide it.
+        x.want(3, 1);
+        x.coefficient(1, 3, 1);
+        x.drift(1, 2);
+        CHECK.due("2: b of the old program is gone", "0/1:0/1 1/1:2/1", () -> Ask.corners(x));
+        x.begin(4, 3);
         x.want(3, -1);
         Ask.setRow(x, 0, 2, 5, 0, 0, 0, 1);
         CHECK.due("2: a and c of the old program are gone", "-5/1", () -> Ask.value(x));
