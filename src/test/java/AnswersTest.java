@@ -17,33 +17,10 @@ public final class AnswersTest {
         CHECK.finish();
     }
 
-    /** x(0) is at most 1 and at least 2. */
-    private static RationalProgram infeasible() {
-        RationalProgram x = Ask.wanting(2, 1);
-        Ask.setRow(x, 0, 0, 1, 1);
-        Ask.setRow(x, 1, 2, 2, 1);
-        return x;
-    }
-
-    /** x(0) - x(1) is at most 1, and both are wanted. */
-    private static RationalProgram unbounded() {
-        RationalProgram x = Ask.wanting(1, 1, 1);
-        Ask.setRow(x, 0, 0, 1, 1, -1);
-        return x;
-    }
-
-    /** The best points lie between (0, 4) and (8/3, 4/3). */
-    private static RationalProgram optimal() {
-        RationalProgram x = Ask.wanting(2, 1, 1);
-        Ask.setRow(x, 0, 0, 4, 1, 1);
-        Ask.setRow(x, 1, 0, 4, 2, -1);
-        return x;
-    }
-
     private static void solves() {
-        CHECK.due("7: OPTIMAL", 0, () -> optimal().solve());
-        CHECK.due("7: INFEASIBLE", 1, () -> infeasible().solve());
-        CHECK.due("7: UNBOUNDED", 2, () -> unbounded().solve());
+        CHECK.due("7: OPTIMAL", 0, () -> Programs.optimal().solve());
+        CHECK.due("7: INFEASIBLE", 1, () -> Programs.infeasible().solve());
+        CHECK.due("7: UNBOUNDED", 2, () -> Programs.unbounded().solve());
         RationalProgram both = Ask.wanting(1, 1, 9);
         Ask.setRow(both, 0, 1, -3, 1, 0);
         CHECK.due("7: INFEASIBLE though x(1) is free to grow", 1, both::solve);
@@ -77,15 +54,15 @@ public final class AnswersTest {
         CHECK.due("8: below 0 without a common divisor", "-21/2", () -> Ask.value(x));
         for (int what : new int[] {-1, 2, 3, Integer.MIN_VALUE, Integer.MAX_VALUE}) {
             CHECK.badArgument("8: what " + what, () -> x.value(what));
-            CHECK.badState("8: the state is named first", () -> infeasible().value(what));
+            CHECK.badState("8: the state is named first", () -> Programs.infeasible().value(what));
         }
-        CHECK.badState("8: INFEASIBLE", () -> infeasible().value(0));
-        CHECK.badState("8: UNBOUNDED", () -> unbounded().value(1));
+        CHECK.badState("8: INFEASIBLE", () -> Programs.infeasible().value(0));
+        CHECK.badState("8: UNBOUNDED", () -> Programs.unbounded().value(1));
     }
 
     private static void points() {
-        CHECK.due("9: least x(0)", "0/1 4/1", () -> Ask.point(optimal(), 2));
-        RationalProgram one = optimal();
+        CHECK.due("9: least x(0)", "0/1 4/1", () -> Ask.point(Programs.optimal(), 2));
+        RationalProgram one = Programs.optimal();
         one.want(0, 2);
         CHECK.due("9: one best point", "8/3 4/3", () -> Ask.point(one, 2));
         RationalProgram flat = Ask.wanting(1, 1, 1, 1, 1);
@@ -95,26 +72,26 @@ public final class AnswersTest {
         Ask.setRow(later, 0, 2, 3, 1, 1, 1);
         Ask.setRow(later, 1, 0, 2, 0, 0, 1);
         CHECK.due("9: the least x(0) first, though x(1) must be more", "0/1 1/1 2/1", () -> Ask.point(later, 3));
-        RationalProgram x = optimal();
+        RationalProgram x = Programs.optimal();
         for (int j : new int[] {-1, 2, Integer.MIN_VALUE, Integer.MAX_VALUE}) {
             CHECK.badIndex("9: variable " + j, () -> x.point(j, 0));
             CHECK.badIndex("9: the index is named before what", () -> x.point(j, 2));
-            CHECK.badState("9: the state is named first", () -> unbounded().point(j, 2));
+            CHECK.badState("9: the state is named first", () -> Programs.unbounded().point(j, 2));
         }
         for (int what : new int[] {-1, 2, Integer.MIN_VALUE, Integer.MAX_VALUE}) {
             CHECK.badArgument("9: what " + what, () -> x.point(1, what));
         }
-        CHECK.badState("9: INFEASIBLE", () -> infeasible().point(0, 0));
-        CHECK.badState("9: UNBOUNDED", () -> unbounded().point(0, 0));
+        CHECK.badState("9: INFEASIBLE", () -> Programs.infeasible().point(0, 0));
+        CHECK.badState("9: UNBOUNDED", () -> Programs.unbounded().point(0, 0));
     }
 
     private static void ranges() {
-        RationalProgram x = optimal();
+        RationalProgram x = Programs.optimal();
         CHECK.due("10: least", "0/1", () -> Ask.range(x, 0, false));
         CHECK.due("10: greatest", "8/3", () -> Ask.range(x, 0, true));
         x.want(0, -1);
         CHECK.due("10: of all feasible points", "8/3", () -> Ask.range(x, 0, true));
-        RationalProgram open = unbounded();
+        RationalProgram open = Programs.unbounded();
         open.row(0, 2, 3);
         CHECK.due("10: UNBOUNDED programs have a least", "3/1", () -> Ask.range(open, 0, false));
         CHECK.due("10: no greatest", "throws.UnsupportedOperationException", () -> open.range(0, true, 0));
@@ -126,16 +103,16 @@ public final class AnswersTest {
         for (int j : new int[] {-1, 2, Integer.MIN_VALUE, Integer.MAX_VALUE}) {
             CHECK.badIndex("10: variable " + j, () -> open.range(j, true, 0));
             CHECK.badIndex("10: the index is named before what", () -> open.range(j, false, -1));
-            CHECK.badState("10: the state is named first", () -> infeasible().range(j, true, 2));
+            CHECK.badState("10: the state is named first", () -> Programs.infeasible().range(j, true, 2));
         }
         for (int what : new int[] {-1, 2, Integer.MIN_VALUE, Integer.MAX_VALUE}) {
             CHECK.badArgument("10: what " + what, () -> open.range(0, false, what));
         }
-        CHECK.badState("10: INFEASIBLE", () -> infeasible().range(0, false, 0));
+        CHECK.badState("10: INFEASIBLE", () -> Programs.infeasible().range(0, false, 0));
     }
 
     private static void tightRows() {
-        RationalProgram x = optimal();
+        RationalProgram x = Programs.optimal();
         CHECK.due("11: in all best points", true, () -> x.tight(0));
         CHECK.due("11: in one of them only", false, () -> x.tight(1));
         x.want(0, 2);
@@ -151,13 +128,13 @@ public final class AnswersTest {
         CHECK.due("11: a row of zeros with right side 1", false, () -> zeros.tight(1));
         for (int i : new int[] {-1, 2, Integer.MIN_VALUE, Integer.MAX_VALUE}) {
             CHECK.badIndex("11: row " + i, () -> x.tight(i));
-            CHECK.badState("11: the state is named first", () -> infeasible().tight(i));
+            CHECK.badState("11: the state is named first", () -> Programs.infeasible().tight(i));
         }
-        CHECK.badState("11: UNBOUNDED", () -> unbounded().tight(0));
+        CHECK.badState("11: UNBOUNDED", () -> Programs.unbounded().tight(0));
     }
 
     private static void conflicts() {
-        CHECK.due("12: both rows", 3, () -> infeasible().conflict());
+        CHECK.due("12: both rows", 3, () -> Programs.infeasible().conflict());
         RationalProgram x = Ask.wanting(3, 0, 0);
         Ask.setRow(x, 0, 0, -1, 1, 0);
         Ask.setRow(x, 1, 0, 1, 0, 1);
@@ -177,8 +154,8 @@ public final class AnswersTest {
         Ask.setRow(x, 1, 2, 2, 1, 0);
         Ask.setRow(x, 2, 2, 2, 0, 1);
         CHECK.due("12: all three", 7, x::conflict);
-        CHECK.badState("12: OPTIMAL", () -> optimal().conflict());
-        CHECK.badState("12: UNBOUNDED", () -> unbounded().conflict());
+        CHECK.badState("12: OPTIMAL", () -> Programs.optimal().conflict());
+        CHECK.badState("12: UNBOUNDED", () -> Programs.unbounded().conflict());
         CHECK.badState("12: a new object", () -> new RationalProgram().conflict());
     }
 
@@ -196,7 +173,7 @@ public final class AnswersTest {
         CHECK.due("13: t0 = t1 = 1 is one corner", "1/1:0/1", () -> Ask.corners(x));
         x.row(0, 0, -6);
         CHECK.due("13: none when no t is feasible", 0, x::corners);
-        CHECK.due("13: none when all are UNBOUNDED", 0, () -> unbounded().corners());
+        CHECK.due("13: none when all are UNBOUNDED", 0, () -> Programs.unbounded().corners());
         x.begin(1, 2);
         x.want(0, -3);
         Ask.setRow(x, 0, 1, 2, 1);
@@ -224,7 +201,7 @@ public final class AnswersTest {
     }
 
     private static void cornersAreRefused() {
-        RationalProgram x = optimal();
+        RationalProgram x = Programs.optimal();
         for (int k : new int[] {-1, 2, Integer.MIN_VALUE, Integer.MAX_VALUE}) {
             CHECK.badIndex("14: corner " + k, () -> x.corner(k, 0));
             CHECK.badIndex("14: the index is named first", () -> x.corner(k, 4));
@@ -232,8 +209,8 @@ public final class AnswersTest {
         for (int what : new int[] {-1, 4, Integer.MIN_VALUE, Integer.MAX_VALUE}) {
             CHECK.badArgument("14: what " + what, () -> x.corner(1, what));
         }
-        CHECK.badIndex("14: no corners at all", () -> infeasible().corner(0, 0));
-        CHECK.badIndex("14: no corners when UNBOUNDED", () -> unbounded().corner(0, 0));
+        CHECK.badIndex("14: no corners at all", () -> Programs.infeasible().corner(0, 0));
+        CHECK.badIndex("14: no corners when UNBOUNDED", () -> Programs.unbounded().corner(0, 0));
         RationalProgram y = Ask.wanting(2, 2);
         Ask.setRow(y, 0, 0, 0, 9);
         Ask.setRow(y, 1, 0, 2, 6);

@@ -12,6 +12,12 @@ final class Check {
 
     private int calls = 0;
     private int wrong = 0;
+    private String place = "";
+
+    /** What is checked from here on belongs to these words of the document. */
+    void sentence(String where, String words) {
+        place = where + ", \"" + words + "\": ";
+    }
 
     /** The answer as a text, or "throws." with the name of the exception. */
     static String told(Call call) {
@@ -34,7 +40,7 @@ final class Check {
         String got = told(call);
         if (!got.equals(String.valueOf(want))) {
             wrong++;
-            System.out.println(name + " answered " + got + ", due is " + want);
+            System.out.println(place + name + " answered " + got + ", due is " + want);
         }
     }
 

@@ -1,0 +1,123 @@
+/** What the Terms and "What it is" say of boundary cases, sentence by sentence. */
+public final class TermsBoundaryTest {
+    private static final Check CHECK = new Check();
+    private static final int MOST_CALLS = 512;
+
+    private TermsBoundaryTest() {
+    }
+
+    public static void main(String[] args) {
+        rowsHold();
+        variablesFromZero();
+        zeroFractions();
+        fractionsBelowZero();
+        noCommonDivisor();
+        lastCalls();
+        lastChanges();
+        CHECK.finish();
+    }
+
+    private static void rowsHold() {
+        CHECK.sentence("Terms",
+                "the row HOLDS when its sum is at most (sense 0), is (1), or is at least (2) its RIGHT SIDE b(i)");
+        for (int sense = 0; sense < 3; sense++) {
+            for (int right : new int[] {-50, -1, 0, 1, 50}) {
+                boolean holds = sense == 0 ? 0 <= right : sense == 1 ? 0 == right : 0 >= right;
+                RationalProgram x = Ask.wanting(1, -1);
+                x.row(0, sense, right);
+                CHECK.due("a sum of 0, sense " + sense + ", right side " + right, holds ? 0 : 1, x::solve);
+            }
+            RationalProgram x = Ask.wanting(2, 1);
+            Ask.setRow(x, 0, 1, 50, 9);
+            Ask.setRow(x, 1, sense, 50, 9);
+            CHECK.due("a sum of 50, sense " + sense + ", right side 50", 0, x::solve);
+            x.row(1, sense, 49);
+            CHECK.due("a sum of 50, sense " + sense + ", right side 49", sense == 2 ? 0 : 1, x::solve);
+            x.row(0, 1, 49);
+            x.row(1, sense, 50);
+            CHECK.due("a sum of 49, sense " + sense + ", right side 50", sense == 0 ? 0 : 1, x::solve);
+        }
+    }
+
+    private static void variablesFromZero() {
+        CHECK.sentence("Terms", "which may be any fractions from 0 on");
+        RationalProgram x = Ask.wanting(1, -9);
+        Ask.setRow(x, 0, 0, 0, 9);
+        CHECK.due("0 may be", "0/1", () -> Ask.range(x, 0, true));
+        x.row(0, 0, -1);
+        CHECK.due("less than 0 may not be", 1, x::solve);
+        x.row(0, 2, -50);
+        CHECK.due("at least -50/9 is at least 0", "0/1", () -> Ask.range(x, 0, false));
+        x.row(0, 2, 1);
+        CHECK.due("1/9 may be", "1/9", () -> Ask.range(x, 0, false));
+        x.row(0, 0, 1);
+        CHECK.due("1/9 may be the greatest", "1/9", () -> Ask.range(x, 0, true));
+    }
+
+    private static void zeroFractions() {
+        CHECK.sentence("Terms", "zero is 0 and 1");
+        RationalProgram x = Ask.wanting(2, 9, -9);
+        Ask.setRow(x, 0, 1, 0, 9, -7);
+        Ask.setRow(x, 1, 0, 0, 0, 9);
+        CHECK.due("value", "0/1", () -> Ask.value(x));
+        CHECK.due("point", "0/1 0/1", () -> Ask.point(x, 2));
+        CHECK.due("range, least", "0/1", () -> Ask.range(x, 0, false));
+        CHECK.due("range, greatest", "0/1", () -> Ask.range(x, 1, true));
+        CHECK.due("corner, t and V", "0/1:0/1 1/1:0/1", () -> Ask.corners(x));
+    }
+
+    private static void fractionsBelowZero() {
+        CHECK.sentence("Terms", "the one below greater than 0");
+        RationalProgram x = Ask.wanting(1, -7);
+        Ask.setRow(x, 0, 1, -50, -9);
+        x.drift(0, 9);
+        CHECK.due("value", "-350/9", () -> Ask.value(x));
+        CHECK.due("point", "50/9", () -> Ask.point(x, 1));
+        CHECK.due("range", "50/9", () -> Ask.range(x, 0, true));
+        CHECK.due("V", "0/1:-350/9 1/1:-287/9", () -> Ask.corners(x));
+    }
+
+    private static void noCommonDivisor() {
+        CHECK.sentence("Terms", "two numbers without a common divisor but 1");
+        RationalProgram x = Ask.wanting(2, -6);
+        Ask.setRow(x, 0, 1, 48, 9);
+        Ask.setRow(x, 1, 0, 45, 9);
+        x.drift(0, -9);
+        CHECK.due("t and V", "1/3:-30/1 1/1:-26/1", () -> Ask.corners(x));
+        x.row(1, 0, 50);
+        CHECK.due("value, a whole number", "-32/1", () -> Ask.value(x));
+        CHECK.due("point", "16/3", () -> Ask.point(x, 1));
+        CHECK.due("range, least", "16/3", () -> Ask.range(x, 0, false));
+        CHECK.due("range, greatest", "16/3", () -> Ask.range(x, 0, true));
+        x.want(0, -4);
+        CHECK.due("value, a fraction below 0", "-64/3", () -> Ask.value(x));
+    }
+
+    private static void lastCalls() {
+        CHECK.sentence("What it is", "An object is used for at most 512 calls after it has been made");
+        RationalProgram x = new RationalProgram();
+        for (int call = 1; call <= MOST_CALLS; call++) {
+            int what = call % 2;
+            switch (call % 4) {
+                case 0 -> CHECK.due("call " + call + ", value", 0, () -> x.value(0));
+                case 1 -> CHECK.due("call " + call + ", corner", 1, () -> x.corner(1, what));
+                case 2 -> CHECK.due("call " + call + ", refused", Edges.INDEX, () -> x.tight(0));
+                default -> CHECK.due("call " + call + ", conflict", Edges.STATE, x::conflict);
+            }
+        }
+    }
+
+    private static void lastChanges() {
+        CHECK.sentence("What it is", "An object is used for at most 512 calls after it has been made");
+        RationalProgram x = new RationalProgram();
+        x.begin(1, 1);
+        x.coefficient(0, 0, 1);
+        x.want(0, 1);
+        for (int call = 4; call < MOST_CALLS; call += 2) {
+            int right = call % 51;
+            CHECK.due("call " + call + ", row", Edges.DONE, Edges.touching(x, p -> p.row(0, 0, right)));
+            CHECK.due("call " + (call + 1) + ", value", right, () -> x.value(0));
+        }
+        CHECK.due("call " + MOST_CALLS + ", solve", 0, x::solve);
+    }
+}
