@@ -9,32 +9,70 @@ public final class AnswersBoundaryTest {
     }
 
     public static void main(String[] args) {
-        solveAnswers();
-        solveAtTheEdge();
-        valueAnswers();
-        valueRefuses();
-        pointAnswers();
-        pointTakesTheLeast();
-        pointRefuses();
-        rangeAnswers();
-        rangeHasNoGreatest();
-        rangeRefuses();
-        tightAnswers();
-        tightInAllBestPoints();
-        tightRefuses();
-        conflictAnswers();
-        conflictByRisingNumbers();
-        conflictRefuses();
-        questionsChangeNothing();
+        CHECK.sentence("Promise 7", "OPTIMAL, INFEASIBLE or UNBOUNDED.", AnswersBoundaryTest::solveAnswers);
+        CHECK.sentence("Terms", "UNBOUNDED if there are feasible points of any worth, however great; else OPTIMAL",
+                AnswersBoundaryTest::solveAtTheEdge);
+        CHECK.sentence("Promise 8", "The worth of the best points.", AnswersBoundaryTest::valueAnswers);
+        CHECK.sentence("Promise 8", "IllegalStateException when the program is not OPTIMAL;"
+                + " IllegalArgumentException when what is not 0 or 1.",
+                AnswersBoundaryTest::valueRefuses);
+        CHECK.sentence("Promise 9", "x(j) of that best point", AnswersBoundaryTest::pointAnswers);
+        CHECK.sentence("Promise 9", "which has the least x(0), of those that have it the one with the least x(1),"
+                + " and so on.",
+                AnswersBoundaryTest::pointTakesTheLeast);
+        CHECK.sentence("Promise 9", "IllegalStateException when the program is not OPTIMAL;"
+                + " IndexOutOfBoundsException when there is no variable j;"
+                + " IllegalArgumentException when what is not 0 or 1.",
+                AnswersBoundaryTest::pointRefuses);
+        CHECK.sentence("Promise 10", "The least, or greatest if high, x(j) of all feasible points.",
+                AnswersBoundaryTest::rangeAnswers);
+        CHECK.sentence("Promise 10", "UnsupportedOperationException when there is no greatest.",
+                AnswersBoundaryTest::rangeHasNoGreatest);
+        CHECK.sentence("Promise 10", "IllegalStateException when the program is INFEASIBLE;"
+                + " IndexOutOfBoundsException when there is no variable j;"
+                + " IllegalArgumentException when what is not 0 or 1;"
+                + " UnsupportedOperationException when there is no greatest.",
+                AnswersBoundaryTest::rangeRefuses);
+        CHECK.sentence("Promise 11", "Whether the sum of row i is its right side in all best points.",
+                AnswersBoundaryTest::tightAnswers);
+        CHECK.sentence("Promise 11", "Whether the sum of row i is its right side in all best points.",
+                AnswersBoundaryTest::tightInAllBestPoints);
+        CHECK.sentence("Promise 11", "IllegalStateException when the program is not OPTIMAL;"
+                + " IndexOutOfBoundsException when there is no row i.",
+                AnswersBoundaryTest::tightRefuses);
+        CHECK.sentence("Promise 12", "the sum of 2^i over the rows that stay.",
+                AnswersBoundaryTest::conflictAnswers);
+        CHECK.sentence("Promise 12", "all rows but those that, by rising numbers, are left out, each if what is"
+                + " left without it (and without those left out before) is infeasible",
+                AnswersBoundaryTest::conflictByRisingNumbers);
+        CHECK.sentence("Promise 12", "IllegalStateException when the program is not INFEASIBLE.",
+                AnswersBoundaryTest::conflictRefuses);
+        CHECK.sentence("Not promised", "Nothing is promised beyond the answers and state changes described above",
+                AnswersBoundaryTest::questionsChangeNothing);
         CHECK.finish();
+    }
+
+    /** A question to a program. */
+    private interface Question {
+        Object to(RationalProgram x);
     }
 
     private static String size(int n, int m) {
         return n + " variables, " + m + " rows: ";
     }
 
+    /** Asks a program in each of the three states; INFEASIBLE are only those with rows, and they refuse all of it. */
+    private static void inEachState(int n, int m, String call, String optimal, String unbounded, Question question) {
+        CHECK.due(size(n, m) + call, optimal, Edges.answering(() -> question.to(Programs.zeros(n, m))));
+        CHECK.due(size(n, m) + call + ", UNBOUNDED", unbounded,
+                Edges.answering(() -> question.to(Programs.unbounded(n, m))));
+        if (m > 0) {
+            CHECK.due(size(n, m) + call + ", INFEASIBLE", Edges.STATE,
+                    Edges.answering(() -> question.to(Programs.infeasible(n, m))));
+        }
+    }
+
     private static void solveAnswers() {
-        CHECK.sentence("Promise 7", "OPTIMAL, INFEASIBLE or UNBOUNDED.");
         CHECK.due("a new object", 0, () -> new RationalProgram().solve());
         Edges.inEverySize((n, m) -> {
             CHECK.due(size(n, m) + "right after begin", 0, () -> Programs.zeros(n, m).solve());
@@ -54,7 +92,6 @@ public final class AnswersBoundaryTest {
     }
 
     private static void solveAtTheEdge() {
-        CHECK.sentence("Terms", "UNBOUNDED if there are feasible points of any worth, however great; else OPTIMAL");
         RationalProgram x = Ask.wanting(2, 9, -9);
         Ask.setRow(x, 0, 0, 50, 9, -9);
         CHECK.due("it grows without end along a way of worth 0", 0, x::solve);
@@ -67,7 +104,6 @@ public final class AnswersBoundaryTest {
     }
 
     private static void valueAnswers() {
-        CHECK.sentence("Promise 8", "The worth of the best points.");
         CHECK.due("a new object", "0/1", () -> Ask.value(new RationalProgram()));
         Edges.inEverySize((n, m) -> CHECK.due(size(n, m) + "right after begin", "0/1",
                 () -> Ask.value(Programs.zeros(n, m))));
@@ -78,25 +114,15 @@ public final class AnswersBoundaryTest {
     }
 
     private static void valueRefuses() {
-        CHECK.sentence("Promise 8", "IllegalStateException when the program is not OPTIMAL;"
-                + " IllegalArgumentException when what is not 0 or 1.");
         Edges.inEverySize((n, m) -> {
             for (int what : Edges.around(0, 1)) {
-                String call = size(n, m) + "value(" + what + ")";
-                CHECK.due(call, Edges.isIn(what, 0, 1) ? Edges.ANSWERS : Edges.ARGUMENT,
-                        Edges.answering(() -> Programs.zeros(n, m).value(what)));
-                CHECK.due(call + ", UNBOUNDED", Edges.STATE,
-                        Edges.answering(() -> Programs.unbounded(n, m).value(what)));
-                if (m > 0) {
-                    CHECK.due(call + ", INFEASIBLE", Edges.STATE,
-                            Edges.answering(() -> Programs.infeasible(n, m).value(what)));
-                }
+                String due = Edges.isIn(what, 0, 1) ? Edges.ANSWERS : Edges.ARGUMENT;
+                inEachState(n, m, "value(" + what + ")", due, Edges.STATE, x -> x.value(what));
             }
         });
     }
 
     private static void pointAnswers() {
-        CHECK.sentence("Promise 9", "x(j) of that best point");
         CHECK.due("a new object", "0/1", () -> Ask.point(new RationalProgram(), 1));
         Edges.inEverySize((n, m) -> CHECK.due(size(n, m) + "right after begin",
                 "0/1 0/1 0/1 0/1".substring(0, 4 * n - 1), () -> Ask.point(Programs.zeros(n, m), n)));
@@ -110,8 +136,6 @@ public final class AnswersBoundaryTest {
     }
 
     private static void pointTakesTheLeast() {
-        CHECK.sentence("Promise 9",
-                "which has the least x(0), of those that have it the one with the least x(1), and so on.");
         for (int n = 1; n <= 4; n++) {
             int variables = n;
             RationalProgram x = Ask.wanting(1, new int[n]);
@@ -151,31 +175,18 @@ public final class AnswersBoundaryTest {
     }
 
     private static void pointRefuses() {
-        CHECK.sentence("Promise 9", "IllegalStateException when the program is not OPTIMAL;"
-                + " IndexOutOfBoundsException when there is no variable j;"
-                + " IllegalArgumentException when what is not 0 or 1.");
         Edges.inEverySize((n, m) -> {
-            RationalProgram optimal = Programs.zeros(n, m);
-            RationalProgram unbounded = Programs.unbounded(n, m);
             for (int j : Edges.around(0, n - 1)) {
                 for (int what : Edges.around(0, 1)) {
-                    String call = size(n, m) + "point(" + j + ", " + what + ")";
                     String due = !Edges.isIn(j, 0, n - 1) ? Edges.INDEX
                             : !Edges.isIn(what, 0, 1) ? Edges.ARGUMENT : Edges.ANSWERS;
-                    CHECK.due(call, due, Edges.answering(() -> optimal.point(j, what)));
-                    CHECK.due(call + ", UNBOUNDED", Edges.STATE,
-                            Edges.answering(() -> unbounded.point(j, what)));
-                    if (m > 0) {
-                        CHECK.due(call + ", INFEASIBLE", Edges.STATE,
-                                Edges.answering(() -> Programs.infeasible(n, m).point(j, what)));
-                    }
+                    inEachState(n, m, "point(" + j + ", " + what + ")", due, Edges.STATE, x -> x.point(j, what));
                 }
             }
         });
     }
 
     private static void rangeAnswers() {
-        CHECK.sentence("Promise 10", "The least, or greatest if high, x(j) of all feasible points.");
         CHECK.due("a new object", "0/1", () -> Ask.range(new RationalProgram(), 0, false));
         Edges.inEverySize((n, m) -> {
             for (int j = 0; j < n; j++) {
@@ -202,7 +213,6 @@ public final class AnswersBoundaryTest {
     }
 
     private static void rangeHasNoGreatest() {
-        CHECK.sentence("Promise 10", "UnsupportedOperationException when there is no greatest.");
         CHECK.due("a new object", Edges.NO_WAY, () -> new RationalProgram().range(0, true, 0));
         Edges.inEverySize((n, m) -> {
             for (int j = 0; j < n; j++) {
@@ -225,10 +235,6 @@ public final class AnswersBoundaryTest {
     }
 
     private static void rangeRefuses() {
-        CHECK.sentence("Promise 10", "IllegalStateException when the program is INFEASIBLE;"
-                + " IndexOutOfBoundsException when there is no variable j;"
-                + " IllegalArgumentException when what is not 0 or 1;"
-                + " UnsupportedOperationException when there is no greatest.");
         Edges.inEverySize((n, m) -> {
             for (int j : Edges.around(0, n - 1)) {
                 for (int what : Edges.around(0, 1)) {
@@ -240,19 +246,12 @@ public final class AnswersBoundaryTest {
     }
 
     private static void rangeRefuses(int n, int m, int j, int what, boolean high) {
-        String call = size(n, m) + "range(" + j + ", " + high + ", " + what + ")";
         String due = !Edges.isIn(j, 0, n - 1) ? Edges.INDEX : !Edges.isIn(what, 0, 1) ? Edges.ARGUMENT
                 : high ? Edges.NO_WAY : Edges.ANSWERS;
-        CHECK.due(call, due, Edges.answering(() -> Programs.zeros(n, m).range(j, high, what)));
-        CHECK.due(call + ", UNBOUNDED", due, Edges.answering(() -> Programs.unbounded(n, m).range(j, high, what)));
-        if (m > 0) {
-            CHECK.due(call + ", INFEASIBLE", Edges.STATE,
-                    Edges.answering(() -> Programs.infeasible(n, m).range(j, high, what)));
-        }
+        inEachState(n, m, "range(" + j + ", " + high + ", " + what + ")", due, due, x -> x.range(j, high, what));
     }
 
     private static void tightAnswers() {
-        CHECK.sentence("Promise 11", "Whether the sum of row i is its right side in all best points.");
         Edges.inEverySize((n, m) -> {
             for (int i = 0; i < m; i++) {
                 int at = i;
@@ -274,7 +273,6 @@ public final class AnswersBoundaryTest {
     }
 
     private static void tightInAllBestPoints() {
-        CHECK.sentence("Promise 11", "Whether the sum of row i is its right side in all best points.");
         RationalProgram x = Ask.wanting(3, 9, 9);
         Ask.setRow(x, 0, 0, 50, 9, 9);
         Ask.setRow(x, 1, 0, 50, 9, 0);
@@ -293,19 +291,10 @@ public final class AnswersBoundaryTest {
     }
 
     private static void tightRefuses() {
-        CHECK.sentence("Promise 11", "IllegalStateException when the program is not OPTIMAL;"
-                + " IndexOutOfBoundsException when there is no row i.");
         Edges.inEverySize((n, m) -> {
             for (int i : Edges.around(0, m - 1)) {
-                String call = size(n, m) + "tight(" + i + ")";
-                CHECK.due(call, Edges.isIn(i, 0, m - 1) ? Edges.ANSWERS : Edges.INDEX,
-                        Edges.answering(() -> Programs.zeros(n, m).tight(i)));
-                CHECK.due(call + ", UNBOUNDED", Edges.STATE,
-                        Edges.answering(() -> Programs.unbounded(n, m).tight(i)));
-                if (m > 0) {
-                    CHECK.due(call + ", INFEASIBLE", Edges.STATE,
-                            Edges.answering(() -> Programs.infeasible(n, m).tight(i)));
-                }
+                String due = Edges.isIn(i, 0, m - 1) ? Edges.ANSWERS : Edges.INDEX;
+                inEachState(n, m, "tight(" + i + ")", due, Edges.STATE, x -> x.tight(i));
             }
         });
     }
@@ -319,7 +308,6 @@ public final class AnswersBoundaryTest {
     }
 
     private static void conflictAnswers() {
-        CHECK.sentence("Promise 12", "the sum of 2^i over the rows that stay.");
         for (int m = 1; m <= 3; m++) {
             int rows = m;
             CHECK.due("the last of " + m + " rows alone", 1 << m - 1, () -> Programs.infeasible(4, rows).conflict());
@@ -337,8 +325,6 @@ public final class AnswersBoundaryTest {
     }
 
     private static void conflictByRisingNumbers() {
-        CHECK.sentence("Promise 12", "all rows but those that, by rising numbers, are left out, each if what is left"
-                + " without it (and without those left out before) is infeasible");
         for (int mask = 1; mask < 8; mask++) {
             RationalProgram x = Programs.zeros(2, 3);
             for (int i = 0; i < 3; i++) {
@@ -365,7 +351,6 @@ public final class AnswersBoundaryTest {
     }
 
     private static void conflictRefuses() {
-        CHECK.sentence("Promise 12", "IllegalStateException when the program is not INFEASIBLE.");
         CHECK.due("a new object", Edges.STATE, () -> new RationalProgram().conflict());
         Edges.inEverySize((n, m) -> {
             CHECK.due(size(n, m) + "right after begin", Edges.STATE, () -> Programs.zeros(n, m).conflict());
@@ -380,7 +365,6 @@ public final class AnswersBoundaryTest {
     }
 
     private static void questionsChangeNothing() {
-        CHECK.sentence("Not promised", "Nothing is promised beyond the answers and state changes described above");
         Numbers infeasible = Numbers.full();
         infeasible.b[0] = -50;
         infeasible.senses[0] = 0;

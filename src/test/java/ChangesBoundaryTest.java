@@ -9,33 +9,46 @@ public final class ChangesBoundaryTest {
     }
 
     public static void main(String[] args) {
-        newObject();
-        beginMakesAllZero();
-        beginForgetsBetweenSizes();
-        firstChangeAfterBegin();
-        beginTakesAndRefuses();
-        refusedBeginChangesNothing();
-        coefficientBecomes();
-        coefficientRefusesPlaces();
-        coefficientRefusesNumbers();
-        refusedCoefficientChangesNothing();
-        rowGets();
-        rowRefusesPlaces();
-        rowRefusesNumbers();
-        refusedRowChangesNothing();
-        wantBecomes();
-        wantRefusesPlaces();
-        wantRefusesNumbers();
-        refusedWantChangesNothing();
-        driftBecomes();
-        driftRefusesPlaces();
-        driftRefusesNumbers();
-        refusedDriftChangesNothing();
+        CHECK.sentence("Promise 1", "The program with one variable and no rows; all numbers are 0.",
+                ChangesBoundaryTest::newObject);
+        CHECK.sentence("Promise 2", "A new program: all a, b, c, e are 0, all senses 0.",
+                ChangesBoundaryTest::beginMakesAllZero);
+        CHECK.sentence("Promise 2", "A new program: all a, b, c, e are 0, all senses 0.",
+                ChangesBoundaryTest::beginForgetsBetweenSizes);
+        CHECK.sentence("Promise 2", "A new program: all a, b, c, e are 0, all senses 0.",
+                ChangesBoundaryTest::firstChangeAfterBegin);
+        CHECK.sentence("Promise 2", "IllegalArgumentException, changing nothing, when n is not 1 .. 4 or m not 0 .. 3.",
+                ChangesBoundaryTest::beginTakesAndRefuses);
+        CHECK.sentence("Promise 2", "IllegalArgumentException, changing nothing, when n is not 1 .. 4 or m not 0 .. 3.",
+                ChangesBoundaryTest::refusedBeginChangesNothing);
+        CHECK.sentence("Promise 3", "a(i, j) becomes v.", ChangesBoundaryTest::coefficientBecomes);
+        CHECK.sentence("Promise 3", "IndexOutOfBoundsException when there is no row i or no variable j",
+                ChangesBoundaryTest::coefficientRefusesPlaces);
+        CHECK.sentence("Promise 3", "IllegalArgumentException when v is not -9 .. 9",
+                ChangesBoundaryTest::coefficientRefusesNumbers);
+        CHECK.sentence("Promise 3", "both change nothing.", ChangesBoundaryTest::refusedCoefficientChangesNothing);
+        CHECK.sentence("Promise 4", "Row i gets a sense and a right side.", ChangesBoundaryTest::rowGets);
+        CHECK.sentence("Promise 4", "IndexOutOfBoundsException when there is no row i",
+                ChangesBoundaryTest::rowRefusesPlaces);
+        CHECK.sentence("Promise 4", "IllegalArgumentException when sense is not 0 .. 2 or right not -50 .. 50",
+                ChangesBoundaryTest::rowRefusesNumbers);
+        CHECK.sentence("Promise 4", "both change nothing.", ChangesBoundaryTest::refusedRowChangesNothing);
+        CHECK.sentence("Promise 5", "c(j) becomes v.", ChangesBoundaryTest::wantBecomes);
+        CHECK.sentence("Promise 5", "IndexOutOfBoundsException when there is no variable j",
+                ChangesBoundaryTest::wantRefusesPlaces);
+        CHECK.sentence("Promise 5", "IllegalArgumentException when v is not -9 .. 9",
+                ChangesBoundaryTest::wantRefusesNumbers);
+        CHECK.sentence("Promise 5", "both change nothing.", ChangesBoundaryTest::refusedWantChangesNothing);
+        CHECK.sentence("Promise 6", "e(i) becomes v.", ChangesBoundaryTest::driftBecomes);
+        CHECK.sentence("Promise 6", "IndexOutOfBoundsException when there is no row i",
+                ChangesBoundaryTest::driftRefusesPlaces);
+        CHECK.sentence("Promise 6", "IllegalArgumentException when v is not -9 .. 9",
+                ChangesBoundaryTest::driftRefusesNumbers);
+        CHECK.sentence("Promise 6", "both change nothing.", ChangesBoundaryTest::refusedDriftChangesNothing);
         CHECK.finish();
     }
 
     private static void newObject() {
-        CHECK.sentence("Promise 1", "The program with one variable and no rows; all numbers are 0.");
         CHECK.due("what a new object shows", new Numbers(1, 0), () -> Numbers.read(RationalProgram::new));
         RationalProgram x = new RationalProgram();
         CHECK.due("its variable", Edges.DONE, Edges.touching(x, p -> p.want(0, 0)));
@@ -46,7 +59,6 @@ public final class ChangesBoundaryTest {
     }
 
     private static void beginMakesAllZero() {
-        CHECK.sentence("Promise 2", "A new program: all a, b, c, e are 0, all senses 0.");
         Edges.inEverySize((n, m) -> CHECK.due("begin(" + n + ", " + m + ") after a full program", new Numbers(n, m),
                 () -> Numbers.read(() -> Edges.touched(Numbers.full(), x -> x.begin(n, m)))));
         Edges.inEverySize((n, m) -> CHECK.due("begin(" + n + ", " + m + ") on a new object", new Numbers(n, m),
@@ -54,7 +66,6 @@ public final class ChangesBoundaryTest {
     }
 
     private static void beginForgetsBetweenSizes() {
-        CHECK.sentence("Promise 2", "A new program: all a, b, c, e are 0, all senses 0.");
         Edges.inEverySize((n, m) -> CHECK.due("a full program, begin(" + n + ", " + m + "), begin(4, 3)",
                 new Numbers(4, 3), () -> Numbers.read(() -> Edges.touched(Numbers.full(), x -> {
                     x.begin(n, m);
@@ -64,7 +75,6 @@ public final class ChangesBoundaryTest {
 
     /** A number that begin had left behind might come out only when another number of its row is set. */
     private static void firstChangeAfterBegin() {
-        CHECK.sentence("Promise 2", "A new program: all a, b, c, e are 0, all senses 0.");
         for (int i = 0; i < 3; i++) {
             int row = i;
             Numbers factor = new Numbers(4, 3);
@@ -101,20 +111,16 @@ public final class ChangesBoundaryTest {
     }
 
     private static void beginTakesAndRefuses() {
-        CHECK.sentence("Promise 2",
-                "IllegalArgumentException, changing nothing, when n is not 1 .. 4 or m not 0 .. 3.");
         for (int n : Edges.around(1, 4)) {
             for (int m : Edges.around(0, 3)) {
                 String due = Edges.isIn(n, 1, 4) && Edges.isIn(m, 0, 3) ? Edges.DONE : Edges.ARGUMENT;
                 CHECK.due("begin(" + n + ", " + m + ")", due,
-                        Edges.touching(Numbers.full().make(), x -> x.begin(n, m)));
+                        Edges.touching(new RationalProgram(), x -> x.begin(n, m)));
             }
         }
     }
 
     private static void refusedBeginChangesNothing() {
-        CHECK.sentence("Promise 2",
-                "IllegalArgumentException, changing nothing, when n is not 1 .. 4 or m not 0 .. 3.");
         for (int n : Edges.outside(1, 4)) {
             changesNothing("begin(" + n + ", 2)", x -> x.begin(n, 2));
             changesNothing("begin(" + n + ", 4)", x -> x.begin(n, 4));
@@ -140,7 +146,6 @@ public final class ChangesBoundaryTest {
     }
 
     private static void coefficientBecomes() {
-        CHECK.sentence("Promise 3", "a(i, j) becomes v.");
         for (int v : new int[] {-9, -8, -1, 0, 1, 8, 9}) {
             for (int place = 0; place < 12; place++) {
                 int i = place / 4;
@@ -153,7 +158,6 @@ public final class ChangesBoundaryTest {
     }
 
     private static void coefficientRefusesPlaces() {
-        CHECK.sentence("Promise 3", "IndexOutOfBoundsException when there is no row i or no variable j");
         Edges.inEverySize((n, m) -> {
             for (int i : Edges.around(0, m - 1)) {
                 for (int j : Edges.around(0, n - 1)) {
@@ -170,15 +174,13 @@ public final class ChangesBoundaryTest {
     }
 
     private static void coefficientRefusesNumbers() {
-        CHECK.sentence("Promise 3", "IllegalArgumentException when v is not -9 .. 9");
         for (int v : Edges.around(-9, 9)) {
             CHECK.due("coefficient(2, 3, " + v + ")", Edges.isIn(v, -9, 9) ? Edges.DONE : Edges.ARGUMENT,
-                    Edges.touching(Numbers.full().make(), x -> x.coefficient(2, 3, v)));
+                    Edges.touching(new Numbers(4, 3).make(), x -> x.coefficient(2, 3, v)));
         }
     }
 
     private static void refusedCoefficientChangesNothing() {
-        CHECK.sentence("Promise 3", "both change nothing.");
         for (int v : Edges.outside(-9, 9)) {
             changesNothing("coefficient(0, 0, " + v + ")", x -> x.coefficient(0, 0, v));
         }
@@ -191,7 +193,6 @@ public final class ChangesBoundaryTest {
     }
 
     private static void rowGets() {
-        CHECK.sentence("Promise 4", "Row i gets a sense and a right side.");
         for (int right : new int[] {-50, -49, -1, 0, 1, 49, 50}) {
             for (int place = 0; place < 9; place++) {
                 int i = place / 3;
@@ -205,7 +206,6 @@ public final class ChangesBoundaryTest {
     }
 
     private static void rowRefusesPlaces() {
-        CHECK.sentence("Promise 4", "IndexOutOfBoundsException when there is no row i");
         Edges.inEverySize((n, m) -> {
             for (int i : Edges.around(0, m - 1)) {
                 boolean there = Edges.isIn(i, 0, m - 1);
@@ -222,18 +222,16 @@ public final class ChangesBoundaryTest {
     }
 
     private static void rowRefusesNumbers() {
-        CHECK.sentence("Promise 4", "IllegalArgumentException when sense is not 0 .. 2 or right not -50 .. 50");
         for (int sense : Edges.around(0, 2)) {
             for (int right : Edges.around(-50, 50)) {
                 boolean taken = Edges.isIn(sense, 0, 2) && Edges.isIn(right, -50, 50);
                 CHECK.due("row(2, " + sense + ", " + right + ")", taken ? Edges.DONE : Edges.ARGUMENT,
-                        Edges.touching(Numbers.full().make(), x -> x.row(2, sense, right)));
+                        Edges.touching(new Numbers(4, 3).make(), x -> x.row(2, sense, right)));
             }
         }
     }
 
     private static void refusedRowChangesNothing() {
-        CHECK.sentence("Promise 4", "both change nothing.");
         for (int sense : Edges.outside(0, 2)) {
             changesNothing("row(0, " + sense + ", 5), a right side that would do",
                     x -> x.row(0, sense, 5));
@@ -248,7 +246,6 @@ public final class ChangesBoundaryTest {
     }
 
     private static void wantBecomes() {
-        CHECK.sentence("Promise 5", "c(j) becomes v.");
         for (int v : new int[] {-9, -8, -1, 0, 1, 8, 9}) {
             for (int place = 0; place < 4; place++) {
                 int j = place;
@@ -260,7 +257,6 @@ public final class ChangesBoundaryTest {
     }
 
     private static void wantRefusesPlaces() {
-        CHECK.sentence("Promise 5", "IndexOutOfBoundsException when there is no variable j");
         Edges.inEverySize((n, m) -> {
             for (int j : Edges.around(0, n - 1)) {
                 boolean there = Edges.isIn(j, 0, n - 1);
@@ -275,15 +271,13 @@ public final class ChangesBoundaryTest {
     }
 
     private static void wantRefusesNumbers() {
-        CHECK.sentence("Promise 5", "IllegalArgumentException when v is not -9 .. 9");
         for (int v : Edges.around(-9, 9)) {
             CHECK.due("want(3, " + v + ")", Edges.isIn(v, -9, 9) ? Edges.DONE : Edges.ARGUMENT,
-                    Edges.touching(Numbers.full().make(), x -> x.want(3, v)));
+                    Edges.touching(new Numbers(4, 3).make(), x -> x.want(3, v)));
         }
     }
 
     private static void refusedWantChangesNothing() {
-        CHECK.sentence("Promise 5", "both change nothing.");
         for (int v : Edges.outside(-9, 9)) {
             changesNothing("want(0, " + v + ")", x -> x.want(0, v));
         }
@@ -293,7 +287,6 @@ public final class ChangesBoundaryTest {
     }
 
     private static void driftBecomes() {
-        CHECK.sentence("Promise 6", "e(i) becomes v.");
         for (int v : new int[] {-9, -8, -1, 0, 1, 8, 9}) {
             for (int place = 0; place < 3; place++) {
                 int i = place;
@@ -305,7 +298,6 @@ public final class ChangesBoundaryTest {
     }
 
     private static void driftRefusesPlaces() {
-        CHECK.sentence("Promise 6", "IndexOutOfBoundsException when there is no row i");
         Edges.inEverySize((n, m) -> {
             for (int i : Edges.around(0, m - 1)) {
                 boolean there = Edges.isIn(i, 0, m - 1);
@@ -320,15 +312,13 @@ public final class ChangesBoundaryTest {
     }
 
     private static void driftRefusesNumbers() {
-        CHECK.sentence("Promise 6", "IllegalArgumentException when v is not -9 .. 9");
         for (int v : Edges.around(-9, 9)) {
             CHECK.due("drift(2, " + v + ")", Edges.isIn(v, -9, 9) ? Edges.DONE : Edges.ARGUMENT,
-                    Edges.touching(Numbers.full().make(), x -> x.drift(2, v)));
+                    Edges.touching(new Numbers(4, 3).make(), x -> x.drift(2, v)));
         }
     }
 
     private static void refusedDriftChangesNothing() {
-        CHECK.sentence("Promise 6", "both change nothing.");
         for (int v : Edges.outside(-9, 9)) {
             changesNothing("drift(0, " + v + ")", x -> x.drift(0, v));
         }

@@ -14,9 +14,10 @@ final class Check {
     private int wrong = 0;
     private String place = "";
 
-    /** What is checked from here on belongs to these words of the document. */
-    void sentence(String where, String words) {
+    /** Runs the test of these words of the document; what is wrong in it is told with them, even if it breaks off. */
+    void sentence(String where, String words, Change test) {
         place = where + ", \"" + words + "\": ";
+        done("the test as a whole", test);
     }
 
     /** The answer as a text, or "throws." with the name of the exception. */

@@ -1,4 +1,4 @@
-/** Promises 13 and 14 and what the Terms say of drift, sentence by sentence: no corner, one, the most; t at its ends. */
+/** Promises 13 and 14 and what the Terms say of drift, by sentences: no corner, one, the most; t at its ends. */
 public final class CornersBoundaryTest {
     private static final Check CHECK = new Check();
 
@@ -6,15 +6,22 @@ public final class CornersBoundaryTest {
     }
 
     public static void main(String[] args) {
-        cornersAnswers();
-        noCorners();
-        onlyForSomeTimes();
-        oneCorner();
-        bendsAtTheEnds();
-        bendsOnly();
-        byRisingTime();
-        cornerAnswers();
-        cornerRefuses();
+        CHECK.sentence("Promise 13", "How many corners V has", CornersBoundaryTest::cornersAnswers);
+        CHECK.sentence("Promise 13", "0 when no program at a t has best points.", CornersBoundaryTest::noCorners);
+        CHECK.sentence("Terms", "there may be such only for some t, and they lie between the least, t0, and"
+                + " the greatest, t1, of these",
+                CornersBoundaryTest::onlyForSomeTimes);
+        CHECK.sentence("Terms", "t0 = t1 is one corner.", CornersBoundaryTest::oneCorner);
+        CHECK.sentence("Terms", "CORNERS are t0, t1, and each t between where V bends",
+                CornersBoundaryTest::bendsAtTheEnds);
+        CHECK.sentence("Terms", "where no line has the values of V nearby on both sides",
+                CornersBoundaryTest::bendsOnly);
+        CHECK.sentence("Terms", "they are counted 0, 1, .. by rising t", CornersBoundaryTest::byRisingTime);
+        CHECK.sentence("Promise 14", "Corner k: its t (what 0 above, 1 below) and V there (2 above, 3 below).",
+                CornersBoundaryTest::cornerAnswers);
+        CHECK.sentence("Promise 14", "IndexOutOfBoundsException when there is no corner k;"
+                + " IllegalArgumentException when what is not 0 .. 3.",
+                CornersBoundaryTest::cornerRefuses);
         CHECK.finish();
     }
 
@@ -29,7 +36,6 @@ public final class CornersBoundaryTest {
     }
 
     private static void cornersAnswers() {
-        CHECK.sentence("Promise 13", "How many corners V has");
         CHECK.due("a new object", 2, () -> new RationalProgram().corners());
         Edges.inEverySize((n, m) -> {
             String size = n + " variables, " + m + " rows: ";
@@ -47,7 +53,6 @@ public final class CornersBoundaryTest {
     }
 
     private static void noCorners() {
-        CHECK.sentence("Promise 13", "0 when no program at a t has best points.");
         Edges.inEverySize((n, m) -> {
             String size = n + " variables, " + m + " rows: ";
             CHECK.due(size + "UNBOUNDED", 0, () -> Programs.unbounded(n, m).corners());
@@ -66,8 +71,6 @@ public final class CornersBoundaryTest {
     }
 
     private static void onlyForSomeTimes() {
-        CHECK.sentence("Terms", "there may be such only for some t, and they lie between the least, t0, and the"
-                + " greatest, t1, of these");
         CHECK.due("from 5/9 on", "5/9:0/1 1/1:4/1", () -> Ask.corners(under(-5, 9)));
         CHECK.due("the program at 0 is INFEASIBLE", 1, () -> under(-5, 9).solve());
         CHECK.due("up to 4/9", "0/1:4/1 4/9:0/1", () -> Ask.corners(under(4, -9)));
@@ -77,7 +80,6 @@ public final class CornersBoundaryTest {
     }
 
     private static void oneCorner() {
-        CHECK.sentence("Terms", "t0 = t1 is one corner.");
         CHECK.due("at t = 0", "0/1:0/1", () -> Ask.corners(under(0, -9)));
         CHECK.due("at t = 1", "1/1:0/1", () -> Ask.corners(under(-9, 9)));
         CHECK.due("between", "1/2:0/1", () -> Ask.corners(under(-1, 2, 1, -2)));
@@ -94,7 +96,6 @@ public final class CornersBoundaryTest {
     }
 
     private static void bendsAtTheEnds() {
-        CHECK.sentence("Terms", "CORNERS are t0, t1, and each t between where V bends");
         CHECK.due("lines that cross at 0", "0/1:2/1 1/1:3/1", () -> Ask.corners(under(2, 4, 2, 1)));
         CHECK.due("lines that cross at 1", "0/1:1/1 1/1:5/1", () -> Ask.corners(under(4, 1, 1, 4)));
         CHECK.due("lines that would cross before 0", "0/1:1/1 1/1:2/1", () -> Ask.corners(under(2, 9, 1, 1)));
@@ -106,7 +107,6 @@ public final class CornersBoundaryTest {
     }
 
     private static void bendsOnly() {
-        CHECK.sentence("Terms", "where no line has the values of V nearby on both sides");
         CHECK.due("the same line twice", "0/1:5/1 1/1:6/1", () -> Ask.corners(under(5, 1, 5, 1)));
         CHECK.due("three lines through one point", "0/1:1/1 1/2:2/1 1/1:1/1",
                 () -> Ask.corners(under(1, 2, 3, -2, 2, 0)));
@@ -127,7 +127,6 @@ public final class CornersBoundaryTest {
     }
 
     private static void byRisingTime() {
-        CHECK.sentence("Terms", "they are counted 0, 1, .. by rising t");
         CHECK.due("all there, the most", "0/1:-169/1 44/135:-122/135 16/39:-4/39 3/7:0/1 27/55:12/55 9/17:3/17"
                 + " 4/7:1/14 29/50:1/25 25/41:-9/41 5/7:-18/7 1/1:-57/5", () -> Ask.corners(Programs.mostCorners()));
         CHECK.due("all there, the greatest below t", "0/1:25931/774 1189/2898:8969/322",
@@ -139,7 +138,6 @@ public final class CornersBoundaryTest {
     }
 
     private static void cornerAnswers() {
-        CHECK.sentence("Promise 14", "Corner k: its t (what 0 above, 1 below) and V there (2 above, 3 below).");
         RationalProgram x = under(-8, 9, 9, -9);
         long[][] due = {{8, 9, 0, 1}, {17, 18, 1, 2}, {1, 1, 0, 1}};
         for (int place = 0; place < 12; place++) {
@@ -159,8 +157,6 @@ public final class CornersBoundaryTest {
     }
 
     private static void cornerRefuses() {
-        CHECK.sentence("Promise 14", "IndexOutOfBoundsException when there is no corner k;"
-                + " IllegalArgumentException when what is not 0 .. 3.");
         RationalProgram[] programs = {Programs.infeasible(), Programs.unbounded(), under(0, -9), Programs.optimal(),
             under(0, 9, 3, 0), Programs.mostCorners(), new RationalProgram(), Programs.zeros(4, 3)};
         int[] counts = {0, 0, 1, 2, 3, 11, 2, 2};

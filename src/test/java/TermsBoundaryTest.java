@@ -7,19 +7,21 @@ public final class TermsBoundaryTest {
     }
 
     public static void main(String[] args) {
-        rowsHold();
-        variablesFromZero();
-        zeroFractions();
-        fractionsBelowZero();
-        noCommonDivisor();
-        lastCalls();
-        lastChanges();
+        CHECK.sentence("Terms", "the row HOLDS when its sum is at most (sense 0), is (1), or is at least (2) its RIGHT"
+                + " SIDE b(i)",
+                TermsBoundaryTest::rowsHold);
+        CHECK.sentence("Terms", "which may be any fractions from 0 on", TermsBoundaryTest::variablesFromZero);
+        CHECK.sentence("Terms", "zero is 0 and 1", TermsBoundaryTest::zeroFractions);
+        CHECK.sentence("Terms", "the one below greater than 0", TermsBoundaryTest::fractionsBelowZero);
+        CHECK.sentence("Terms", "two numbers without a common divisor but 1", TermsBoundaryTest::noCommonDivisor);
+        CHECK.sentence("What it is", "An object is used for at most 512 calls after it has been made",
+                TermsBoundaryTest::lastCalls);
+        CHECK.sentence("What it is", "An object is used for at most 512 calls after it has been made",
+                TermsBoundaryTest::lastChanges);
         CHECK.finish();
     }
 
     private static void rowsHold() {
-        CHECK.sentence("Terms",
-                "the row HOLDS when its sum is at most (sense 0), is (1), or is at least (2) its RIGHT SIDE b(i)");
         for (int sense = 0; sense < 3; sense++) {
             for (int right : new int[] {-50, -1, 0, 1, 50}) {
                 boolean holds = sense == 0 ? 0 <= right : sense == 1 ? 0 == right : 0 >= right;
@@ -40,7 +42,6 @@ public final class TermsBoundaryTest {
     }
 
     private static void variablesFromZero() {
-        CHECK.sentence("Terms", "which may be any fractions from 0 on");
         RationalProgram x = Ask.wanting(1, -9);
         Ask.setRow(x, 0, 0, 0, 9);
         CHECK.due("0 may be", "0/1", () -> Ask.range(x, 0, true));
@@ -55,7 +56,6 @@ public final class TermsBoundaryTest {
     }
 
     private static void zeroFractions() {
-        CHECK.sentence("Terms", "zero is 0 and 1");
         RationalProgram x = Ask.wanting(2, 9, -9);
         Ask.setRow(x, 0, 1, 0, 9, -7);
         Ask.setRow(x, 1, 0, 0, 0, 9);
@@ -67,7 +67,6 @@ public final class TermsBoundaryTest {
     }
 
     private static void fractionsBelowZero() {
-        CHECK.sentence("Terms", "the one below greater than 0");
         RationalProgram x = Ask.wanting(1, -7);
         Ask.setRow(x, 0, 1, -50, -9);
         x.drift(0, 9);
@@ -78,7 +77,6 @@ public final class TermsBoundaryTest {
     }
 
     private static void noCommonDivisor() {
-        CHECK.sentence("Terms", "two numbers without a common divisor but 1");
         RationalProgram x = Ask.wanting(2, -6);
         Ask.setRow(x, 0, 1, 48, 9);
         Ask.setRow(x, 1, 0, 45, 9);
@@ -94,7 +92,6 @@ public final class TermsBoundaryTest {
     }
 
     private static void lastCalls() {
-        CHECK.sentence("What it is", "An object is used for at most 512 calls after it has been made");
         RationalProgram x = new RationalProgram();
         for (int call = 1; call <= MOST_CALLS; call++) {
             int what = call % 2;
@@ -108,7 +105,6 @@ public final class TermsBoundaryTest {
     }
 
     private static void lastChanges() {
-        CHECK.sentence("What it is", "An object is used for at most 512 calls after it has been made");
         RationalProgram x = new RationalProgram();
         x.begin(1, 1);
         x.coefficient(0, 0, 1);
