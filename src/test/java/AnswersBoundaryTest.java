@@ -1,3 +1,5 @@
+import java.util.Random;
+
 /**
  * Promises 7 to 12, sentence by sentence: what is answered right after begin, without rows, and where all variables and
  * rows are there; what is refused, and which exception comes first.
@@ -40,6 +42,8 @@ public final class AnswersBoundaryTest {
         CHECK.sentence("Promise 11", "IllegalStateException when the program is not OPTIMAL;"
                 + " IndexOutOfBoundsException when there is no row i.",
                 AnswersBoundaryTest::tightRefuses);
+        CHECK.sentence("Promise 12", "Of an INFEASIBLE program the rows that can't be together",
+                AnswersBoundaryTest::conflictCantBeTogether);
         CHECK.sentence("Promise 12", "the sum of 2^i over the rows that stay.",
                 AnswersBoundaryTest::conflictAnswers);
         CHECK.sentence("Promise 12", "all rows but those that, by rising numbers, are left out, each if what is"
@@ -305,6 +309,37 @@ public final class AnswersBoundaryTest {
         x.coefficient(most, 0, 1);
         Ask.setRow(x, least, 2, 1, 1, 0);
         return x;
+    }
+
+    /** The program with the rows of the mask; the others always hold. */
+    private static Numbers onlyRows(Numbers p, int mask) {
+        Numbers some = p.withRows(p.m);
+        for (int i = 0; i < p.m; i++) {
+            if ((mask >> i & 1) == 0) {
+                some.a[i] = new int[p.n];
+                some.senses[i] = 0;
+                some.b[i] = 0;
+            }
+        }
+        return some;
+    }
+
+    private static void conflictCantBeTogether() {
+        Random random = new Random(20261116);
+        for (int k = 0; k < 400; k++) {
+            Numbers p = Numbers.some(random, 4);
+            if (p.make().solve() != RationalProgram.INFEASIBLE) {
+                continue;
+            }
+            int together = p.make().conflict();
+            CHECK.due(p + ": the rows of " + together, RationalProgram.INFEASIBLE,
+                    () -> onlyRows(p, together).make().solve());
+            for (int left = together; left > 0; left &= left - 1) {
+                int fewer = together & ~Integer.lowestOneBit(left);
+                CHECK.due(p + ": the rows of " + fewer + " alone can't be together", false,
+                        () -> onlyRows(p, fewer).make().solve() == RationalProgram.INFEASIBLE);
+            }
+        }
     }
 
     private static void conflictAnswers() {

@@ -17,6 +17,7 @@ final class Check {
     /** Runs the test of these words of the document; what is wrong in it is told with them, even if it breaks off. */
     void sentence(String where, String words, Change test) {
         place = where + ", \"" + words + "\": ";
+        due("the document lacks these words", false, () -> Document.lacks(where, words));
         done("the test as a whole", test);
     }
 

@@ -1,71 +1,137 @@
 import java.lang.reflect.Constructor;
+import java.lang.reflect.Executable;
 import java.lang.reflect.Field;
 import java.lang.reflect.Method;
 import java.lang.reflect.Modifier;
 import java.util.Arrays;
 import java.util.Set;
 import java.util.TreeSet;
+import java.util.stream.Collectors;
 
-/** The public face: the constants, and every member with its types and exceptions, and no other. */
+/**
+ * The public face as the document's code block has it: every member with its modifiers, types, names and exceptions in
+ * their order, and no other. To be compiled with -parameters, without which the names are not there to be seen.
+ */
 public final class FaceTest {
-    private static final String[] FACE = {
-        "void begin(int, int) IllegalArgumentException",
-        "void coefficient(int, int, int) IndexOutOfBoundsException IllegalArgumentException",
-        "void row(int, int, int) IndexOutOfBoundsException IllegalArgumentException",
-        "void want(int, int) IndexOutOfBoundsException IllegalArgumentException",
-        "void drift(int, int) IndexOutOfBoundsException IllegalArgumentException",
-        "int solve()",
-        "long value(int) IllegalStateException IllegalArgumentException",
-        "long point(int, int) IllegalStateException IndexOutOfBoundsException IllegalArgumentException",
-        "long range(int, boolean, int) IllegalStateException IndexOutOfBoundsException IllegalArgumentException"
-            + " UnsupportedOperationException",
-        "boolean tight(int) IllegalStateException IndexOutOfBoundsException",
-        "int conflict() IllegalStateException",
-        "int corners()",
-        "long corner(int, int) IndexOutOfBoundsException IllegalArgumentException",
-        "OPTIMAL", "INFEASIBLE", "UNBOUNDED", "new()",
-    };
+    private static final String FACE = """
+            public final class RationalProgram {
+                public static final int OPTIMAL = 0, INFEASIBLE = 1, UNBOUNDED = 2;
+                public RationalProgram();
+                public void begin(int n, int m) throws IllegalArgumentException;
+                public void coefficient(int i, int j, int v) throws IndexOutOfBoundsException, IllegalArgumentException;
+                public void row(int i, int sense, int right) throws IndexOutOfBoundsException, IllegalArgumentException;
+                public void want(int j, int v) throws IndexOutOfBoundsException, IllegalArgumentException;
+                public void drift(int i, int v) throws IndexOutOfBoundsException, IllegalArgumentException;
+                public int solve();
+                public long value(int what) throws IllegalStateException, IllegalArgumentException;
+                public long point(int j, int what) throws IllegalStateException, IndexOutOfBoundsException, \
+            IllegalArgumentException;
+                public long range(int j, boolean high, int what) throws IllegalStateException, \
+            IndexOutOfBoundsException, IllegalArgumentException, UnsupportedOperationException;
+                public boolean tight(int i) throws IllegalStateException, IndexOutOfBoundsException;
+                public int conflict() throws IllegalStateException;
+                public int corners();
+                public long corner(int k, int what) throws IndexOutOfBoundsException, IllegalArgumentException;
+            }
+            """;
+    private static final Class<RationalProgram> SEEN = RationalProgram.class;
+    private static final Check CHECK = new Check();
 
     private FaceTest() {
     }
 
     public static void main(String[] args) {
-        Check check = new Check();
-        check.due("OPTIMAL", 0, () -> RationalProgram.OPTIMAL);
-        check.due("INFEASIBLE", 1, () -> RationalProgram.INFEASIBLE);
-        check.due("UNBOUNDED", 2, () -> RationalProgram.UNBOUNDED);
-        check.due("the face", new TreeSet<>(Arrays.asList(FACE)), FaceTest::openMembers);
-        check.due("the class is public and final", Modifier.PUBLIC | Modifier.FINAL,
-                () -> RationalProgram.class.getModifiers());
-        check.finish();
+        CHECK.sentence("The public face", FACE, FaceTest::membersAreAsWritten);
+        CHECK.sentence("The public face", "OPTIMAL = 0, INFEASIBLE = 1, UNBOUNDED = 2", FaceTest::constants);
+        CHECK.sentence("The public face", "public final class RationalProgram", FaceTest::classesInside);
+        CHECK.finish();
+    }
+
+    private static void membersAreAsWritten() {
+        Set<String> due = new TreeSet<>();
+        for (String line : FACE.split("\n")) {
+            String member = line.strip().replaceAll(" \\{$|;$", "");
+            if (member.contains(" = ")) {
+                due.addAll(Arrays.asList(member.replace(", ", ",public static final int ").split(",")));
+            } else if (!member.equals("}")) {
+                due.add(member);
+            }
+        }
+        Set<String> open = openMembers();
+        for (String member : due) {
+            CHECK.due(member, true, () -> open.contains(member));
+        }
+        for (String member : open) {
+            CHECK.due(member + ", open to the caller", true, () -> due.contains(member));
+        }
+    }
+
+    private static void constants() {
+        CHECK.due("OPTIMAL", 0, () -> RationalProgram.OPTIMAL);
+        CHECK.due("INFEASIBLE", 1, () -> RationalProgram.INFEASIBLE);
+        CHECK.due("UNBOUNDED", 2, () -> RationalProgram.UNBOUNDED);
+    }
+
+    /** Nothing more of it is open by way of another class either, nor may a name mean a public and a private method. */
+    private static void classesInside() {
+        CHECK.due("what it extends", Object.class, SEEN::getSuperclass);
+        CHECK.due("how many interfaces it has", 0, () -> SEEN.getInterfaces().length);
+        for (Class<?> inside : SEEN.getDeclaredClasses()) {
+            int modifiers = inside.getModifiers();
+            CHECK.due(inside + " is closed and static", true, () -> Modifier.isStatic(modifiers)
+                    && !Modifier.isPublic(modifiers) && !Modifier.isProtected(modifiers));
+        }
+        Set<String> open = Arrays.stream(SEEN.getMethods()).map(Method::getName).collect(Collectors.toSet());
+        for (Method m : SEEN.getDeclaredMethods()) {
+            CHECK.due(m + " has a name of its own", true,
+                    () -> !Modifier.isPrivate(m.getModifiers()) || !open.contains(m.getName()));
+        }
+    }
+
+    private static boolean isOpen(int modifiers) {
+        return !Modifier.isPrivate(modifiers);
     }
 
     private static Set<String> openMembers() {
         Set<String> open = new TreeSet<>();
-        for (Method m : RationalProgram.class.getDeclaredMethods()) {
-            if (!Modifier.isPrivate(m.getModifiers())) {
-                open.add(m.getReturnType().getSimpleName() + " " + m.getName() + listed(m.getParameterTypes(), "(", ", ", ")")
-                        + listed(m.getExceptionTypes(), m.getExceptionTypes().length == 0 ? "" : " ", " ", ""));
+        open.add(Modifier.toString(SEEN.getModifiers()) + " class " + SEEN.getName());
+        for (Method m : SEEN.getDeclaredMethods()) {
+            if (isOpen(m.getModifiers())) {
+                open.add(told(m, m.getReturnType().getSimpleName() + " " + m.getName()));
             }
         }
-        for (Field f : RationalProgram.class.getDeclaredFields()) {
-            if (!Modifier.isPrivate(f.getModifiers())) {
-                open.add(f.getName());
+        for (Constructor<?> c : SEEN.getDeclaredConstructors()) {
+            if (isOpen(c.getModifiers())) {
+                open.add(told(c, SEEN.getSimpleName()));
             }
         }
-        for (Constructor<?> c : RationalProgram.class.getDeclaredConstructors()) {
-            if (!Modifier.isPrivate(c.getModifiers())) {
-                open.add("new" + listed(c.getParameterTypes(), "(", ", ", ")"));
+        for (Field f : SEEN.getDeclaredFields()) {
+            if (isOpen(f.getModifiers())) {
+                open.add(told(f));
             }
         }
         return open;
     }
 
-    private static String listed(Class<?>[] types, String before, String between, String after) {
-        StringBuilder told = new StringBuilder(before);
-        for (int k = 0; k < types.length; k++) {
-            told.append(k == 0 ? "" : between).append(types[k].getSimpleName());
+    private static String told(Executable e, String name) {
+        String parameters = Arrays.stream(e.getParameters())
+                .map(p -> p.getType().getSimpleName() + " " + p.getName()).collect(Collectors.joining(", "));
+        String exceptions = Arrays.stream(e.getExceptionTypes())
+                .map(Class::getSimpleName).collect(Collectors.joining(", "));
+        return Modifier.toString(e.getModifiers()) + " " + name + "(" + parameters + ")"
+                + (exceptions.isEmpty() ? "" : " throws " + exceptions);
+    }
+
+    private static String told(Field f) {
+        String kind = Modifier.toString(f.getModifiers()) + " " + f.getType().getSimpleName() + " " + f.getName();
+        return kind + " = " + valueOf(f);
+    }
+
+    private static Object valueOf(Field f) {
+        try {
+            return Modifier.isStatic(f.getModifiers()) ? f.get(null) : "a field of each object";
+        } catch (IllegalAccessException e) {
+            throw new IllegalStateException(e);
         }
-        return told.append(after).toString();
     }
 }

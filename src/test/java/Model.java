@@ -283,12 +283,12 @@ final class Model {
 
     private static void addBend(List<Rational[]> above, Rational[] p, Rational[] q, Span times,
             TreeMap<Rational, Rational> found) {
-        Rational slope = p[0].plus(q[0].negated());
+        Rational slope = p[0].minus(q[0]);
         if (slope.above.signum() == 0) {
             return;
         }
-        Rational rise = q[1].plus(p[1].negated());
-        Rational t = rise.times(new Rational(slope.below, slope.above));
+        Rational rise = q[1].minus(p[1]);
+        Rational t = rise.over(slope);
         if (t.compareTo(times.low) <= 0 || t.compareTo(times.high) >= 0) {
             return;
         }

@@ -1,17 +1,20 @@
 import java.util.Random;
 
-/** Long runs of calls, good and bad, each answer beside that of the model. The seed is fixed, so every run is the same. */
+/**
+ * Runs of 512 calls, good and bad, each answer beside that of the model. No run is longer, as the document leaves free
+ * what later calls answer. The seed is fixed, so every run is the same.
+ */
 public final class ModelTest {
-    private static final int RUNS = 120;
-    private static final int PROGRAMS = 12;
+    private static final int RUNS = 220;
+    private static final int MOST_CALLS = 512;
+    private static final int[] REACHES = {1, 2, 4, 9};
 
     private final Check check = new Check();
     private final Random random = new Random(20261115);
     private RationalProgram x;
     private Model model;
     private StringBuilder run;
-    /** How far numbers go in this run: small ones make rows meet in one point, great ones make great fractions. */
-    private int reach;
+    private int calls;
     private int n;
     private int m;
 
@@ -21,9 +24,11 @@ public final class ModelTest {
     public static void main(String[] args) {
         int runs = args.length > 0 ? Integer.parseInt(args[0]) : RUNS;
         ModelTest test = new ModelTest();
-        for (int k = 0; k < runs; k++) {
-            test.oneRun();
-        }
+        test.check.sentence("What it is", "An object is used for at most 512 calls after it has been made", () -> {
+            for (int k = 0; k < runs; k++) {
+                test.oneRun();
+            }
+        });
         test.check.finish();
     }
 
@@ -31,13 +36,13 @@ public final class ModelTest {
         x = new RationalProgram();
         model = new Model();
         run = new StringBuilder();
+        calls = 0;
         n = 1;
         m = 0;
-        int[] reaches = {1, 2, 4, 9};
-        reach = reaches[random.nextInt(reaches.length)];
+        int reach = REACHES[random.nextInt(REACHES.length)];
         askAll();
-        for (int p = 0; p < PROGRAMS; p++) {
-            makeProgram();
+        while (calls < MOST_CALLS) {
+            makeProgram(Numbers.some(random, reach));
             askAll();
             for (int k = random.nextInt(4); k > 0; k--) {
                 wildChange();
@@ -47,28 +52,18 @@ public final class ModelTest {
         }
     }
 
-    private void makeProgram() {
-        n = 1 + random.nextInt(4);
-        m = random.nextInt(8) == 0 ? random.nextInt(4) : 1 + random.nextInt(3);
-        change("begin", n, m, 0);
-        for (int i = 0; i < m; i++) {
-            for (int j = 0; j < n; j++) {
-                change("coefficient", i, j, number(reach));
+    private void makeProgram(Numbers numbers) {
+        change("begin", numbers.n, numbers.m, 0);
+        for (int i = 0; i < numbers.m; i++) {
+            for (int j = 0; j < numbers.n; j++) {
+                change("coefficient", i, j, numbers.a[i][j]);
             }
-            int right = reach == 9 ? number(50) : number(3 * reach);
-            change("row", i, random.nextInt(3), random.nextInt(3) > 0 ? Math.abs(right) : right);
-            change("drift", i, number(reach), 0);
+            change("row", i, numbers.senses[i], numbers.b[i]);
+            change("drift", i, numbers.e[i], 0);
         }
-        // Worths that fall more often than they rise leave more programs with best points.
-        int falling = random.nextInt(3);
-        for (int j = 0; j < n; j++) {
-            int v = number(reach);
-            change("want", j, falling > 0 && random.nextInt(3) > 0 ? -Math.abs(v) : v, 0);
+        for (int j = 0; j < numbers.n; j++) {
+            change("want", j, numbers.c[j], 0);
         }
-    }
-
-    private int number(int most) {
-        return random.nextInt(2 * most + 1) - most;
     }
 
     private void wildChange() {
@@ -89,10 +84,14 @@ public final class ModelTest {
         if (kind == 2 && random.nextInt(8) == 0) {
             return random.nextBoolean() ? Integer.MAX_VALUE : Integer.MIN_VALUE;
         }
-        return limit == 60 ? number(10) : random.nextInt(Math.max(1, limit));
+        return limit == 60 ? Numbers.upTo(random, 10) : random.nextInt(Math.max(1, limit));
     }
 
     private void change(String name, int p, int q, int r) {
+        if (calls == MOST_CALLS) {
+            return;
+        }
+        calls++;
         String call = name + "(" + p + ", " + q + ", " + r + ")";
         String due = Check.told(Check.asCall(() -> changeModel(name, p, q, r)));
         if (due.equals("done") && name.equals("begin")) {
@@ -189,6 +188,10 @@ public final class ModelTest {
     }
 
     private void question(String call, Check.Call asked, Check.Call due) {
+        if (calls == MOST_CALLS) {
+            return;
+        }
+        calls++;
         check.due(run + call, Check.told(due), asked);
     }
 }

@@ -1,4 +1,5 @@
 import java.util.Arrays;
+import java.util.Random;
 
 /** All numbers of a program: as they are due, or as a program shows them to someone who can only call it. */
 final class Numbers {
@@ -47,9 +48,38 @@ final class Numbers {
         return due;
     }
 
-    Numbers copy() {
-        Numbers other = new Numbers(n, m);
+    /** The reach is how far numbers go: small ones make rows meet in one point, great ones make great fractions. */
+    static Numbers some(Random random, int reach) {
+        int n = 1 + random.nextInt(4);
+        int m = random.nextInt(8) == 0 ? random.nextInt(4) : 1 + random.nextInt(3);
+        Numbers some = new Numbers(n, m);
         for (int i = 0; i < m; i++) {
+            for (int j = 0; j < n; j++) {
+                some.a[i][j] = upTo(random, reach);
+            }
+            int right = upTo(random, reach == 9 ? 50 : 3 * reach);
+            some.senses[i] = random.nextInt(3);
+            some.b[i] = random.nextInt(3) > 0 ? Math.abs(right) : right;
+            some.e[i] = upTo(random, reach);
+        }
+        // Worths that fall more often than they rise leave more programs with best points.
+        int falling = random.nextInt(3);
+        for (int j = 0; j < n; j++) {
+            int v = upTo(random, reach);
+            some.c[j] = falling > 0 && random.nextInt(3) > 0 ? -Math.abs(v) : v;
+        }
+        return some;
+    }
+
+    /** A number as far from 0 as most, or less far. */
+    static int upTo(Random random, int most) {
+        return random.nextInt(2 * most + 1) - most;
+    }
+
+    /** The same numbers; rows that are new are all 0. */
+    Numbers withRows(int rows) {
+        Numbers other = new Numbers(n, rows);
+        for (int i = 0; i < Math.min(m, rows); i++) {
             other.a[i] = a[i].clone();
             other.senses[i] = senses[i];
             other.b[i] = b[i];

@@ -1,4 +1,3 @@
-import java.math.BigInteger;
 import java.util.ArrayList;
 import java.util.List;
 
@@ -56,23 +55,15 @@ public final class OneRowTest {
         }
     }
 
-    private static Rational fraction(long above, long below) {
-        return new Rational(BigInteger.valueOf(above), BigInteger.valueOf(below));
-    }
-
-    private static String told(Rational r) {
-        return r.above + "/" + r.below;
-    }
-
     private Span spanAt(Rational t) {
-        Rational right = fraction(b, 1).plus(fraction(e, 1).times(t));
+        Rational right = Rational.of(b).plus(Rational.of(e).times(t));
         int sign = right.compareTo(Rational.ZERO);
         Span span = new Span();
         if (a == 0) {
             span.empty = sense == 0 ? sign < 0 : sense == 1 ? sign != 0 : sign > 0;
             return span;
         }
-        Rational end = right.times(fraction(1, a));
+        Rational end = right.times(Rational.of(1, a));
         boolean isEndNegative = end.compareTo(Rational.ZERO) < 0;
         boolean isBoundBelow = sense == (a > 0 ? 2 : 0);
         if (isBoundBelow) {
@@ -92,13 +83,13 @@ public final class OneRowTest {
         if (span.empty) {
             return String.join("|", "1", state, state, state, state, state, "1", corners());
         }
-        String range = told(span.low) + "|" + (span.high == null ? Edges.NO_WAY : told(span.high));
+        String range = span.low + "|" + (span.high == null ? Edges.NO_WAY : span.high);
         if (isUnbounded(span)) {
             return String.join("|", "2", state, state, range, state, state, "");
         }
         Rational best = c > 0 ? span.high : span.low;
         String tight = String.valueOf(isTight(span));
-        return String.join("|", "0", told(worth(span)), told(best), range, tight, state, corners());
+        return String.join("|", "0", worth(span) + "|" + best, range, tight, state, corners());
     }
 
     private boolean isUnbounded(Span span) {
@@ -106,20 +97,20 @@ public final class OneRowTest {
     }
 
     private Rational worth(Span span) {
-        return fraction(c, 1).times(c > 0 ? span.high : span.low);
+        return Rational.of(c).times(c > 0 ? span.high : span.low);
     }
 
     private boolean isTight(Span span) {
         Rational best = c > 0 ? span.high : span.low;
         boolean isOnlyBest = c != 0 || span.high != null && span.high.compareTo(span.low) == 0;
-        return fraction(a, 1).times(best).compareTo(fraction(b, 1)) == 0 && (a == 0 || isOnlyBest);
+        return Rational.of(a).times(best).compareTo(Rational.of(b)) == 0 && (a == 0 || isOnlyBest);
     }
 
     /** Nothing can change between 0 and 1 but where the drifting right side is 0. */
     private String corners() {
         List<Rational> times = new ArrayList<>(List.of(Rational.ZERO));
-        if (e != 0 && fraction(-b, e).compareTo(Rational.ZERO) > 0 && fraction(-b, e).compareTo(Rational.ONE) < 0) {
-            times.add(fraction(-b, e));
+        if (e != 0 && Rational.of(-b, e).compareTo(Rational.ZERO) > 0 && Rational.of(-b, e).compareTo(Rational.ONE) < 0) {
+            times.add(Rational.of(-b, e));
         }
         times.add(Rational.ONE);
         times.removeIf(t -> spanAt(t).empty);
@@ -131,7 +122,7 @@ public final class OneRowTest {
         }
         List<String> all = new ArrayList<>();
         for (Rational t : times) {
-            all.add(told(t) + ":" + told(worth(spanAt(t))));
+            all.add(t + ":" + worth(spanAt(t)));
         }
         return String.join(" ", all);
     }
@@ -139,7 +130,7 @@ public final class OneRowTest {
     private boolean isBent(Rational t) {
         Rational start = worth(spanAt(Rational.ZERO));
         Rational end = worth(spanAt(Rational.ONE));
-        Rational onLine = start.plus(end.plus(start.negated()).times(t));
+        Rational onLine = start.plus(end.minus(start).times(t));
         return onLine.compareTo(worth(spanAt(t))) != 0;
     }
 }

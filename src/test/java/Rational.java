@@ -18,7 +18,11 @@ final class Rational implements Comparable<Rational> {
     }
 
     static Rational of(long whole) {
-        return new Rational(BigInteger.valueOf(whole), BigInteger.ONE);
+        return of(whole, 1);
+    }
+
+    static Rational of(long above, long below) {
+        return new Rational(BigInteger.valueOf(above), BigInteger.valueOf(below));
     }
 
     Rational plus(Rational other) {
@@ -33,6 +37,14 @@ final class Rational implements Comparable<Rational> {
         return new Rational(above.negate(), below);
     }
 
+    Rational minus(Rational other) {
+        return plus(other.negated());
+    }
+
+    Rational over(Rational other) {
+        return times(new Rational(other.below, other.above));
+    }
+
     long part(int what) {
         return (what == 0 ? above : below).longValueExact();
     }
@@ -40,5 +52,10 @@ final class Rational implements Comparable<Rational> {
     @Override
     public int compareTo(Rational other) {
         return above.multiply(other.below).compareTo(other.above.multiply(below));
+    }
+
+    @Override
+    public String toString() {
+        return above + "/" + below;
     }
 }

@@ -14,6 +14,10 @@ public final class TermsBoundaryTest {
         CHECK.sentence("Terms", "zero is 0 and 1", TermsBoundaryTest::zeroFractions);
         CHECK.sentence("Terms", "the one below greater than 0", TermsBoundaryTest::fractionsBelowZero);
         CHECK.sentence("Terms", "two numbers without a common divisor but 1", TermsBoundaryTest::noCommonDivisor);
+        CHECK.sentence("Terms", "Of several exceptions that a call names, the one named first is thrown.",
+                TermsBoundaryTest::firstOfTheChanges);
+        CHECK.sentence("Terms", "Of several exceptions that a call names, the one named first is thrown.",
+                TermsBoundaryTest::firstOfTheAnswers);
         CHECK.sentence("What it is", "An object is used for at most 512 calls after it has been made",
                 TermsBoundaryTest::lastCalls);
         CHECK.sentence("What it is", "An object is used for at most 512 calls after it has been made",
@@ -89,6 +93,46 @@ public final class TermsBoundaryTest {
         CHECK.due("range, greatest", "16/3", () -> Ask.range(x, 0, true));
         x.want(0, -4);
         CHECK.due("value, a fraction below 0", "-64/3", () -> Ask.value(x));
+    }
+
+    private static void refused(String due, RationalProgram x, String call, Edges.Touch touch) {
+        CHECK.due(call, due, Edges.touching(x, touch));
+    }
+
+    private static void firstOfTheChanges() {
+        RationalProgram x = Programs.optimal();
+        refused(Edges.INDEX, x, "coefficient: no row, no such v", p -> p.coefficient(2, 0, 10));
+        refused(Edges.INDEX, x, "coefficient: no variable, no such v", p -> p.coefficient(0, 2, 10));
+        refused(Edges.INDEX, x, "coefficient: no row, no variable, no such v", p -> p.coefficient(-1, -1, -10));
+        refused(Edges.INDEX, x, "row: no row, no sense", p -> p.row(2, 3, 50));
+        refused(Edges.INDEX, x, "row: no row, no such right side", p -> p.row(2, 2, 51));
+        refused(Edges.INDEX, x, "row: no row, no sense, no such right side", p -> p.row(-1, -1, -51));
+        refused(Edges.INDEX, x, "want: no variable, no such v", p -> p.want(2, 10));
+        refused(Edges.INDEX, x, "drift: no row, no such v", p -> p.drift(2, 10));
+    }
+
+    /** Each call breaks several rules; the ones that are named first are mended one after the other. */
+    private static void firstOfTheAnswers() {
+        for (RationalProgram x : new RationalProgram[] {Programs.infeasible(2, 1), Programs.unbounded(2, 1)}) {
+            String state = x.solve() == RationalProgram.INFEASIBLE ? "INFEASIBLE: " : "UNBOUNDED: ";
+            refused(Edges.STATE, x, state + "value: no what", p -> p.value(2));
+            refused(Edges.STATE, x, state + "point: no variable, no what", p -> p.point(2, 2));
+            refused(Edges.STATE, x, state + "point: no variable", p -> p.point(2, 0));
+            refused(Edges.STATE, x, state + "point: no what", p -> p.point(0, 2));
+            refused(Edges.STATE, x, state + "tight: no row", p -> p.tight(1));
+            refused(Edges.INDEX, x, state + "corner: no corner, no what", p -> p.corner(0, 4));
+        }
+        RationalProgram none = Programs.infeasible(2, 1);
+        refused(Edges.STATE, none, "INFEASIBLE: range: no variable, no what", p -> p.range(2, true, 2));
+        refused(Edges.STATE, none, "INFEASIBLE: range: no variable", p -> p.range(2, true, 0));
+        refused(Edges.STATE, none, "INFEASIBLE: range: no what", p -> p.range(0, true, 2));
+        refused(Edges.STATE, none, "INFEASIBLE: range: no greatest", p -> p.range(0, true, 0));
+        RationalProgram some = Programs.zeros(2, 1);
+        refused(Edges.INDEX, some, "point: no variable, no what", p -> p.point(2, 2));
+        refused(Edges.INDEX, some, "range: no variable, no what", p -> p.range(2, true, 2));
+        refused(Edges.ARGUMENT, some, "range: no what, no greatest", p -> p.range(1, true, 2));
+        refused(Edges.NO_WAY, some, "range: no greatest", p -> p.range(1, true, 1));
+        refused(Edges.INDEX, some, "corner: no corner, no what", p -> p.corner(2, 4));
     }
 
     private static void lastCalls() {
