@@ -41,9 +41,10 @@ public final class FaceTest {
     }
 
     public static void main(String[] args) {
-        CHECK.sentence("The public face", FACE, FaceTest::membersAreAsWritten);
+        CHECK.due("the document has another code block", false, () -> Document.lacks("The public face", FACE));
+        CHECK.sentence("The public face", "public final class RationalProgram {", FaceTest::membersAreAsWritten);
         CHECK.sentence("The public face", "OPTIMAL = 0, INFEASIBLE = 1, UNBOUNDED = 2", FaceTest::constants);
-        CHECK.sentence("The public face", "public final class RationalProgram", FaceTest::classesInside);
+        CHECK.sentence("The public face", "public final class RationalProgram {", FaceTest::classesInside);
         CHECK.finish();
     }
 
@@ -59,10 +60,10 @@ public final class FaceTest {
         }
         Set<String> open = openMembers();
         for (String member : due) {
-            CHECK.due(member, true, () -> open.contains(member));
+            CHECK.due(member + " is there", true, () -> open.contains(member));
         }
         for (String member : open) {
-            CHECK.due(member + ", open to the caller", true, () -> due.contains(member));
+            CHECK.due(member + " may be there", true, () -> due.contains(member));
         }
     }
 
